@@ -467,6 +467,9 @@ public final class PromisesTest {
             due("pairs() with " + below, x.pairs(), 2);
             x.set(site, 2);
             due("pairs() with " + site + " blocked", x.pairs(), 0);
+            x.set(site, 1);
+            block(x, right, below);
+            due("pairs() of " + site + " beside blocked sites", x.pairs(), 0);
         }
         KineticLattice x = new KineticLattice();
         occupy(x, 0, 7, 47, 40);
