@@ -1,9 +1,9 @@
 /** The promises one by one, with answers worked out by hand from the document. */
 public final class PromisesTest {
-    private static final int MIN = Integer.MIN_VALUE;
-    private static final int MAX = Integer.MAX_VALUE;
-    private static final int A = 5;
-    private static final int H = 6;
+    private static final int MIN = Lattices.MIN;
+    private static final int MAX = Lattices.MAX;
+    private static final int A = Lattices.A;
+    private static final int H = Lattices.H;
 
     private static final Checks checks = new Checks();
 
@@ -42,43 +42,24 @@ public final class PromisesTest {
         checks.due(call, got, want);
     }
 
-    private static KineticLattice withRates(int d, int a, int h) {
-        KineticLattice x = new KineticLattice();
-        for (int n = 0; n <= 4; n++) {
-            x.rate(n, d);
-        }
-        x.rate(A, a);
-        x.rate(H, h);
-        return x;
-    }
-
-    private static void occupy(KineticLattice x, int... sites) {
-        for (int site : sites) {
-            x.set(site, 1);
-        }
-    }
-
-    private static void block(KineticLattice x, int... sites) {
-        for (int site : sites) {
-            x.set(site, 2);
-        }
-    }
-
-    // Exactly these sites are occupied and none is blocked.
     private static void dueOccupied(String when, KineticLattice x, int... sites) {
-        int[] want = new int[48];
-        for (int site : sites) {
-            want[site] = 1;
-        }
-        for (int site = 0; site < 48; site++) {
-            due(when + ": state(" + site + ")", x.state(site), want[site]);
-        }
+        checks.dueOccupied(when, x, sites);
     }
 
     private static void dueHappened(String when, KineticLattice x, int adsorbed, int desorbed, int hopped) {
-        due(when + ": happened(ADSORB)", x.happened(KineticLattice.ADSORB), adsorbed);
-        due(when + ": happened(DESORB)", x.happened(KineticLattice.DESORB), desorbed);
-        due(when + ": happened(HOP)", x.happened(KineticLattice.HOP), hopped);
+        checks.dueHappened(when, x, adsorbed, desorbed, hopped);
+    }
+
+    private static KineticLattice withRates(int d, int a, int h) {
+        return Lattices.withRates(d, a, h);
+    }
+
+    private static void occupy(KineticLattice x, int... sites) {
+        Lattices.put(x, Lattices.OCCUPIED, sites);
+    }
+
+    private static void block(KineticLattice x, int... sites) {
+        Lattices.put(x, Lattices.BLOCKED, sites);
     }
 
     // Promise 1
@@ -412,12 +393,7 @@ public final class PromisesTest {
 
     // No occupied site has an occupied neighbour: every particle may go everywhere.
     private static void greatestTotal() {
-        KineticLattice x = withRates(1000, 1000, 1000);
-        for (int site = 0; site < 48; site++) {
-            if ((site % 6 + site / 6) % 2 == 0) {
-                x.set(site, 1);
-            }
-        }
+        KineticLattice x = Lattices.fullOfHops(0);
         due("the greatest total()", x.total(), 24 * 5000 + 24 * 1000);
         due("step at its end", x.step(143999), 128 + 768 + 47);
     }
